@@ -427,7 +427,7 @@ public final class CspRefiner {
     private static long allPairs(int ps, int qs) {
         long pairs = 0;
         for (int p = 0; p < NAMES; p++) {
-            if (hasBit(ps, p)) {
+            if ((ps & (1 << p)) != 0) {
                 pairs |= (long) qs << (NAMES * p);
             }
         }

@@ -442,6 +442,12 @@ public final class PromiseTest {
         due("9 full before none", x.feed(1), FULL);
         due("9 bad event before full", x.feed(3), BAD_ARG);
         due("9 log", x.log(), ((1 * 4 + 3) * 4 + 3) * 4 + 1);
+        x.system(0, 0, 7);
+        for (int n = 1; n <= 4; n++) {
+            due("9 feed 0", x.feed(0), n);
+        }
+        due("9 full at the first word of 4", x.feed(0), FULL);
+        due("9 offers there", x.offers(), 0);
     }
 
     private static void undo() {
@@ -579,6 +585,7 @@ public final class PromiseTest {
         due("15 kind 0 the other way", x.gap(0, 0), NONE);
         due("15 kind 1 the other way", x.gap(0, 1), (2 * 4 + 1) * 4 + 3);
         firstInTheOrder();
+        specificationOfManyNames();
     }
 
     // Of the gaps 0 0, 1, and 2 the shorter ones come first, and of those the 1.
@@ -592,6 +599,20 @@ public final class PromiseTest {
         due("15 not of the log", x.gap(1, 0), 2);
         definePrefix(x, 1, 1, 2);
         due("15 smaller first", x.gap(1, 0), 1);
+    }
+
+    // After 0 the specification X 1 may be at X 2 and at X 3: it has the failures of both.
+    private static void specificationOfManyNames() {
+        CspRefiner x = new CspRefiner();
+        defineHid(x, 1, 0, 2, 0, 3);
+        definePrefix(x, 2, 1, 4);
+        definePrefix(x, 3, 2, 4);
+        x.system(1, 7, 0);
+        due("15 its traces", x.gap(1, 0), NONE);
+        due("15 its failures", x.gap(1, 1), NONE);
+        definePrefix(x, 5, 0, 2);
+        due("15 the other trace", x.gap(5, 0), 1 * 4 + 3);
+        due("15 the other refusal", x.gap(5, 1), 1);
     }
 
     private static void gapRefusal() {
@@ -626,6 +647,13 @@ public final class PromiseTest {
         CspRefiner x = new CspRefiner();
         defineHid(x, 1, 0, 7, 1, 7);
         due("16 both at once", x.gapRefusal(1), 3);
+        x.pre(0, 7);
+        x.pre(1, 7);
+        x.pre(2, 7);
+        x.hid();
+        x.hid();
+        x.define(1);
+        due("16 all at once", x.gapRefusal(1), 7);
     }
 
     private static void refined() {
@@ -696,6 +724,9 @@ public final class PromiseTest {
         defineHid(x, 1, 1, 0, 2, 0);
         x.system(1, 1, 7);
         due("19 hid", x.unsure(), 2);
+        defineHid(x, 7, 0, 0, 2, 0);
+        x.system(7, 7, 7);
+        due("19 the first of all", x.unsure(), 1);
         definePrefix(x, 2, 2, 1);
         x.system(2, 2, 7);
         due("19 behind an event", x.unsure(), 3 * 4 + 2);
