@@ -1,13 +1,21 @@
 /** Counts the answers that are not as due and prints each of them. */
 final class Check {
+    private String sentence = "";
+    private int sentences = 0;
     private int asked = 0;
     private int wrong = 0;
+
+    /** The answers from here on are for this sentence of the document; its promise's number stands first. */
+    void begin(String text) {
+        sentence = text + ": ";
+        sentences++;
+    }
 
     void due(String what, long got, long want) {
         asked++;
         if (got != want) {
             wrong++;
-            System.out.println(what + " answered " + got + ", due is " + want);
+            System.out.println(sentence + what + " answered " + got + ", due is " + want);
         }
     }
 
@@ -20,7 +28,8 @@ final class Check {
     }
 
     void end(String test) {
-        System.out.println(test + ": " + asked + " answers, " + wrong + " wrong");
+        String told = sentences == 0 ? "" : sentences + " sentences, ";
+        System.out.println(test + ": " + told + asked + " answers, " + wrong + " wrong");
         if (wrong != 0) {
             System.exit(1);
         }

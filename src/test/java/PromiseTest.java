@@ -42,52 +42,6 @@ public final class PromiseTest {
         CHECK.due(what, got, want);
     }
 
-    /** The sets R that the system refuses after the log, as a mask with the bit R. */
-    private static int refusals(CspRefiner x) {
-        int mask = 0;
-        for (int set = 0; set < 8; set++) {
-            mask |= x.refuses(set) ? 1 << set : 0;
-        }
-        return mask;
-    }
-
-    private static int maskOf(int... sets) {
-        int mask = 0;
-        for (int set : sets) {
-            mask |= 1 << set;
-        }
-        return mask;
-    }
-
-    private static void definePrefix(CspRefiner x, int name, int a, int k) {
-        x.pre(a, k);
-        x.define(name);
-    }
-
-    private static void defineExt(CspRefiner x, int name, int a, int k, int b, int l) {
-        x.pre(a, k);
-        x.pre(b, l);
-        x.ext();
-        x.define(name);
-    }
-
-    private static void defineHid(CspRefiner x, int name, int a, int k, int b, int l) {
-        x.pre(a, k);
-        x.pre(b, l);
-        x.hid();
-        x.define(name);
-    }
-
-    /** X name does any of the three events for ever. */
-    private static void defineRun(CspRefiner x, int name) {
-        x.pre(0, name);
-        x.pre(1, name);
-        x.pre(2, name);
-        x.ext();
-        x.ext();
-        x.define(name);
-    }
-
     private static void constants() {
         due("BAD_ARG", CspRefiner.BAD_ARG, BAD_ARG);
         due("FULL", CspRefiner.FULL, FULL);
@@ -101,7 +55,7 @@ public final class PromiseTest {
         due("1 log", x.log(), 0);
         due("1 undo", x.undo(), NONE);
         due("1 offers", x.offers(), 0);
-        due("1 refusals", refusals(x), 255);
+        due("1 refusals", Make.refusals(x), 255);
         due("1 traces 0", x.traces(0), 1);
         due("1 traces 1", x.traces(1), 0);
         due("1 refined 0", x.refined(0), 8);
@@ -118,8 +72,8 @@ public final class PromiseTest {
     // start would have more traces, fewer traces or other refusals.
     private static void startIsNameZeroOnBothSides() {
         CspRefiner x = new CspRefiner();
-        defineHid(x, 0, 0, 1, 1, 2);
-        definePrefix(x, 1, 2, 3);
+        Make.hid(x, 0, 0, 1, 1, 2);
+        Make.prefix(x, 1, 2, 3);
         due("1 traces 1", x.traces(1), 2);
         due("1 traces 2", x.traces(2), 1);
         due("1 traces 3", x.traces(3), 0);
@@ -135,12 +89,12 @@ public final class PromiseTest {
         due("2 stop on 6", x.stop(), FULL);
         due("2 depth", x.depth(), 6);
         x = new CspRefiner();
-        definePrefix(x, 0, 0, 0);
+        Make.prefix(x, 0, 0, 0);
         due("2 before", x.offers(), 1);
         x.stop();
         x.define(0);
         due("2 offers", x.offers(), 0);
-        due("2 refusals", refusals(x), 255);
+        due("2 refusals", Make.refusals(x), 255);
     }
 
     private static void pre() {
@@ -158,7 +112,7 @@ public final class PromiseTest {
         due("3 pre on 6", x.pre(2, 7), FULL);
         due("3 bad event on 6", x.pre(3, 7), BAD_ARG);
         due("3 bad name on 6", x.pre(2, 8), BAD_ARG);
-        int[] without = {maskOf(0, 2, 4, 6), maskOf(0, 1, 4, 5), maskOf(0, 1, 2, 3)};
+        int[] without = {Make.maskOf(0, 2, 4, 6), Make.maskOf(0, 1, 4, 5), Make.maskOf(0, 1, 2, 3)};
         for (int a = 0; a < 3; a++) {
             for (int k = 1; k < 8; k++) {
                 prefixOf(a, k, without[a]);
@@ -168,10 +122,10 @@ public final class PromiseTest {
 
     private static void prefixOf(int a, int k, int refusals) {
         CspRefiner x = new CspRefiner();
-        definePrefix(x, 0, a, k);
-        definePrefix(x, k, (a + 1) % 3, 0);
+        Make.prefix(x, 0, a, k);
+        Make.prefix(x, k, (a + 1) % 3, 0);
         due("3 offers", x.offers(), 1 << a);
-        due("3 refusals", refusals(x), refusals);
+        due("3 refusals", Make.refusals(x), refusals);
         due("3 feed", x.feed(a), 1);
         due("3 goes on as X k", x.offers(), 1 << ((a + 1) % 3));
         due("3 feed", x.feed((a + 1) % 3), 2);
@@ -188,15 +142,15 @@ public final class PromiseTest {
         due("4 ext on 2", x.ext(), 1);
 
         x = new CspRefiner();
-        defineExt(x, 0, 0, 1, 1, 2);
-        definePrefix(x, 1, 2, 3);
+        Make.ext(x, 0, 0, 1, 1, 2);
+        Make.prefix(x, 1, 2, 3);
         due("4 offers", x.offers(), 3);
-        due("4 refusals", refusals(x), maskOf(0, 4));
+        due("4 refusals", Make.refusals(x), Make.maskOf(0, 4));
         x.feed(0);
         due("4 after 0", x.offers(), 4);
         x.undo();
         x.feed(1);
-        due("4 after 1", refusals(x), 255);
+        due("4 after 1", Make.refusals(x), 255);
 
         extWithOneEvent();
         extTakesTheTopmost();
@@ -205,10 +159,10 @@ public final class PromiseTest {
 
     private static void extWithOneEvent() {
         CspRefiner x = new CspRefiner();
-        defineExt(x, 0, 0, 1, 0, 2);
-        definePrefix(x, 1, 1, 3);
-        definePrefix(x, 2, 2, 3);
-        due("4 same event: refusals", refusals(x), maskOf(0, 2, 4, 6));
+        Make.ext(x, 0, 0, 1, 0, 2);
+        Make.prefix(x, 1, 1, 3);
+        Make.prefix(x, 2, 2, 3);
+        due("4 same event: refusals", Make.refusals(x), Make.maskOf(0, 2, 4, 6));
         x.feed(0);
         due("4 same event: offers", x.offers(), 6);
         due("4 same event: refuses 2", x.refuses(2), true);
@@ -250,16 +204,16 @@ public final class PromiseTest {
         due("5 hid on 2", x.hid(), 1);
 
         x = new CspRefiner();
-        defineHid(x, 0, 0, 1, 1, 2);
-        definePrefix(x, 1, 2, 3);
+        Make.hid(x, 0, 0, 1, 1, 2);
+        Make.prefix(x, 1, 2, 3);
         x.system(0, 4, 0);
         due("5 offers", x.offers(), 3);
-        due("5 refusals", refusals(x), maskOf(0, 1, 2, 4, 5, 6));
+        due("5 refusals", Make.refusals(x), Make.maskOf(0, 1, 2, 4, 5, 6));
         x.feed(0);
         due("5 after 0", x.offers(), 4);
         x.undo();
         x.feed(1);
-        due("5 after 1", refusals(x), 255);
+        due("5 after 1", Make.refusals(x), 255);
 
         x = new CspRefiner();
         x.pre(0, 7);
@@ -282,14 +236,14 @@ public final class PromiseTest {
         x.ext();
         x.define(0);
         x.system(0, 7, 0);
-        due("5 ext of hid", refusals(x), maskOf(0, 1, 4, 5));
+        due("5 ext of hid", Make.refusals(x), Make.maskOf(0, 1, 4, 5));
         x.pre(0, 7);
         x.pre(1, 7);
         x.ext();
         x.stop();
         x.hid();
         x.define(0);
-        due("5 hid of ext", refusals(x), 255);
+        due("5 hid of ext", Make.refusals(x), 255);
         due("5 hid of ext offers", x.offers(), 3);
     }
 
@@ -334,10 +288,10 @@ public final class PromiseTest {
 
     private static void olderTermsSeeIt() {
         CspRefiner x = new CspRefiner();
-        definePrefix(x, 0, 0, 1);
+        Make.prefix(x, 0, 0, 1);
         x.pre(0, 1);
         due("7 traces before", x.traces(2), 0);
-        definePrefix(x, 1, 2, 1);
+        Make.prefix(x, 1, 2, 1);
         due("7 depth", x.depth(), 1);
         due("7 X 0 sees X 1", x.traces(2), 1);
         x.define(2);
@@ -351,7 +305,7 @@ public final class PromiseTest {
 
     private static void logBecomesEmpty() {
         CspRefiner x = new CspRefiner();
-        defineRun(x, 0);
+        Make.run(x, 0);
         x.feed(0);
         x.feed(1);
         x.define(0);
@@ -377,10 +331,10 @@ public final class PromiseTest {
         due("8 the greatest", x.system(7, 7, 7), 0);
 
         // X 1 does 0 1 and X 3 does 0 2, each once.
-        definePrefix(x, 1, 0, 2);
-        definePrefix(x, 2, 1, 7);
-        definePrefix(x, 3, 0, 4);
-        definePrefix(x, 4, 2, 7);
+        Make.prefix(x, 1, 0, 2);
+        Make.prefix(x, 2, 1, 7);
+        Make.prefix(x, 3, 0, 4);
+        Make.prefix(x, 4, 2, 7);
         parallel(x, 0, new int[] {1, 1, 3, 4, 4});
         parallel(x, 1, new int[] {1, 1, 2, 2, 0});
         parallel(x, 2, new int[] {1, 1, 2, 2, 0});
@@ -399,7 +353,7 @@ public final class PromiseTest {
 
     private static void systemEmptiesTheLog() {
         CspRefiner x = new CspRefiner();
-        defineRun(x, 0);
+        Make.run(x, 0);
         x.feed(2);
         x.system(0, 0, 8);
         due("8 refused system keeps the log", x.log(), 3);
@@ -409,18 +363,18 @@ public final class PromiseTest {
 
     private static void refusalsOutsideTheSharedAgree() {
         CspRefiner x = new CspRefiner();
-        definePrefix(x, 1, 0, 7);
-        definePrefix(x, 2, 1, 7);
+        Make.prefix(x, 1, 0, 7);
+        Make.prefix(x, 2, 1, 7);
         x.system(1, 2, 0);
-        due("8 A = 0", refusals(x), maskOf(0, 4));
+        due("8 A = 0", Make.refusals(x), Make.maskOf(0, 4));
         x.system(1, 2, 1);
-        due("8 A = 1", refusals(x), maskOf(0, 1, 4, 5));
+        due("8 A = 1", Make.refusals(x), Make.maskOf(0, 1, 4, 5));
         x.system(1, 2, 2);
-        due("8 A = 2", refusals(x), maskOf(0, 2, 4, 6));
+        due("8 A = 2", Make.refusals(x), Make.maskOf(0, 2, 4, 6));
         x.system(1, 2, 3);
-        due("8 A = 3", refusals(x), 255);
+        due("8 A = 3", Make.refusals(x), 255);
         x.system(1, 2, 4);
-        due("8 A = 4", refusals(x), maskOf(0, 4));
+        due("8 A = 4", Make.refusals(x), Make.maskOf(0, 4));
     }
 
     private static void feed() {
@@ -431,7 +385,7 @@ public final class PromiseTest {
         due("9 event 3", x.feed(3), BAD_ARG);
         due("9 no trace", x.feed(0), NONE);
         due("9 log", x.log(), 0);
-        defineExt(x, 0, 0, 0, 2, 0);
+        Make.ext(x, 0, 0, 0, 2, 0);
         due("9 feed 0", x.feed(0), 1);
         due("9 no trace", x.feed(1), NONE);
         due("9 log", x.log(), 1);
@@ -453,7 +407,7 @@ public final class PromiseTest {
     private static void undo() {
         CspRefiner x = new CspRefiner();
         due("10 empty", x.undo(), NONE);
-        defineRun(x, 0);
+        Make.run(x, 0);
         x.feed(2);
         x.feed(0);
         x.feed(1);
@@ -471,7 +425,7 @@ public final class PromiseTest {
 
     private static void log() {
         CspRefiner x = new CspRefiner();
-        defineRun(x, 0);
+        Make.run(x, 0);
         due("11 empty", x.log(), 0);
         for (int a = 0; a < 3; a++) {
             for (int b = 0; b < 3; b++) {
@@ -497,15 +451,15 @@ public final class PromiseTest {
     private static void offers() {
         CspRefiner x = new CspRefiner();
         due("12 stop", x.offers(), 0);
-        defineExt(x, 0, 0, 1, 2, 2);
-        defineHid(x, 1, 1, 0, 2, 0);
+        Make.ext(x, 0, 0, 1, 2, 2);
+        Make.hid(x, 1, 1, 0, 2, 0);
         due("12 ext", x.offers(), 5);
         x.feed(0);
         due("12 hid", x.offers(), 6);
         x.undo();
         x.feed(2);
         due("12 stop", x.offers(), 0);
-        defineRun(x, 0);
+        Make.run(x, 0);
         for (int n = 0; n < 4; n++) {
             due("12 run", x.offers(), 7);
             x.feed(0);
@@ -521,15 +475,15 @@ public final class PromiseTest {
         // 32 + R would be R to a shift that is not looked at.
         due("13 set 8", x.refuses(8), false);
         due("13 set 32", x.refuses(32), false);
-        due("13 stop", refusals(x), 255);
-        definePrefix(x, 0, 1, 2);
-        due("13 prefix", refusals(x), maskOf(0, 1, 4, 5));
+        due("13 stop", Make.refusals(x), 255);
+        Make.prefix(x, 0, 1, 2);
+        due("13 prefix", Make.refusals(x), Make.maskOf(0, 1, 4, 5));
         x.feed(1);
-        due("13 after the prefix", refusals(x), 255);
-        defineRun(x, 0);
+        due("13 after the prefix", Make.refusals(x), 255);
+        Make.run(x, 0);
         for (int n = 0; n < 4; n++) {
             x.feed(n % 3);
-            due("13 run", refusals(x), maskOf(0));
+            due("13 run", Make.refusals(x), Make.maskOf(0));
         }
     }
 
@@ -539,14 +493,14 @@ public final class PromiseTest {
             due("14 bad length", x.traces(wrong), BAD_ARG);
         }
         due("14 length 5", x.traces(5), BAD_ARG);
-        defineRun(x, 0);
+        Make.run(x, 0);
         int all = 1;
         for (int len = 0; len <= 4; len++) {
             due("14 run", x.traces(len), all);
             all *= 3;
         }
-        definePrefix(x, 1, 0, 1);
-        definePrefix(x, 2, 1, 2);
+        Make.prefix(x, 1, 0, 1);
+        Make.prefix(x, 2, 1, 2);
         x.system(1, 2, 0);
         all = 1;
         for (int len = 0; len <= 4; len++) {
@@ -570,12 +524,12 @@ public final class PromiseTest {
             due("15 stop", x.gap(k, 1), NONE);
         }
         // X 0: 1 0 2 0 .. ; X 1: 1 0 2 for once.
-        definePrefix(x, 0, 1, 2);
-        definePrefix(x, 2, 0, 3);
-        definePrefix(x, 3, 2, 2);
-        definePrefix(x, 1, 1, 4);
-        definePrefix(x, 4, 0, 5);
-        definePrefix(x, 5, 2, 6);
+        Make.prefix(x, 0, 1, 2);
+        Make.prefix(x, 2, 0, 3);
+        Make.prefix(x, 3, 2, 2);
+        Make.prefix(x, 1, 1, 4);
+        Make.prefix(x, 4, 0, 5);
+        Make.prefix(x, 5, 2, 6);
         due("15 towards itself", x.gap(0, 1), NONE);
         due("15 at length 4", x.gap(1, 0), ((2 * 4 + 1) * 4 + 3) * 4 + 1);
         due("15 at length 4", x.gap(1, 1), ((2 * 4 + 1) * 4 + 3) * 4 + 1);
@@ -591,26 +545,26 @@ public final class PromiseTest {
     // Of the gaps 0 0, 1, and 2 the shorter ones come first, and of those the 1.
     private static void firstInTheOrder() {
         CspRefiner x = new CspRefiner();
-        defineRun(x, 0);
-        definePrefix(x, 1, 0, 2);
+        Make.run(x, 0);
+        Make.prefix(x, 1, 0, 2);
         due("15 shorter first", x.gap(1, 0), 2);
         x.feed(0);
         x.feed(0);
         due("15 not of the log", x.gap(1, 0), 2);
-        definePrefix(x, 1, 1, 2);
+        Make.prefix(x, 1, 1, 2);
         due("15 smaller first", x.gap(1, 0), 1);
     }
 
     // After 0 the specification X 1 may be at X 2 and at X 3: it has the failures of both.
     private static void specificationOfManyNames() {
         CspRefiner x = new CspRefiner();
-        defineHid(x, 1, 0, 2, 0, 3);
-        definePrefix(x, 2, 1, 4);
-        definePrefix(x, 3, 2, 4);
+        Make.hid(x, 1, 0, 2, 0, 3);
+        Make.prefix(x, 2, 1, 4);
+        Make.prefix(x, 3, 2, 4);
         x.system(1, 7, 0);
         due("15 its traces", x.gap(1, 0), NONE);
         due("15 its failures", x.gap(1, 1), NONE);
-        definePrefix(x, 5, 0, 2);
+        Make.prefix(x, 5, 0, 2);
         due("15 the other trace", x.gap(5, 0), 1 * 4 + 3);
         due("15 the other refusal", x.gap(5, 1), 1);
     }
@@ -624,10 +578,10 @@ public final class PromiseTest {
         for (int k = 0; k < 8; k++) {
             due("16 stop", x.gapRefusal(k), NONE);
         }
-        definePrefix(x, 0, 0, 7);
-        definePrefix(x, 1, 1, 7);
-        definePrefix(x, 2, 2, 7);
-        defineExt(x, 3, 0, 7, 1, 7);
+        Make.prefix(x, 0, 0, 7);
+        Make.prefix(x, 1, 1, 7);
+        Make.prefix(x, 2, 2, 7);
+        Make.ext(x, 3, 0, 7, 1, 7);
         due("16 X 0 towards X 0", x.gapRefusal(0), NONE);
         due("16 X 0 towards X 1", x.gapRefusal(1), 2);
         due("16 X 0 towards X 2", x.gapRefusal(2), 4);
@@ -645,7 +599,7 @@ public final class PromiseTest {
     // X 1 may refuse 0 alone and 1 alone but not both.
     private static void leastOfTheFirstGap() {
         CspRefiner x = new CspRefiner();
-        defineHid(x, 1, 0, 7, 1, 7);
+        Make.hid(x, 1, 0, 7, 1, 7);
         due("16 both at once", x.gapRefusal(1), 3);
         x.pre(0, 7);
         x.pre(1, 7);
@@ -664,15 +618,15 @@ public final class PromiseTest {
         due("17 kind 2", x.refined(2), BAD_ARG);
         due("17 new, kind 0", x.refined(0), 8);
         due("17 new, kind 1", x.refined(1), 8);
-        definePrefix(x, 1, 0, 7);
-        definePrefix(x, 2, 1, 7);
+        Make.prefix(x, 1, 0, 7);
+        Make.prefix(x, 2, 1, 7);
         due("17 stop, kind 0", x.refined(0), 8);
         due("17 stop, kind 1", x.refined(1), 6);
         x.system(1, 1, 7);
         due("17 X 1, kind 0", x.refined(0), 1);
         due("17 X 1, kind 1", x.refined(1), 1);
-        defineExt(x, 3, 0, 7, 1, 7);
-        defineHid(x, 4, 0, 7, 1, 7);
+        Make.ext(x, 3, 0, 7, 1, 7);
+        Make.hid(x, 4, 0, 7, 1, 7);
         due("17 X 1, kind 0", x.refined(0), 3);
         due("17 X 1, kind 1", x.refined(1), 2);
         x.system(3, 3, 7);
@@ -689,16 +643,16 @@ public final class PromiseTest {
     private static void deadlock() {
         CspRefiner x = new CspRefiner();
         due("18 stop", x.deadlock(), 0);
-        defineRun(x, 0);
+        Make.run(x, 0);
         due("18 run", x.deadlock(), NONE);
-        defineExt(x, 1, 2, 0, 1, 2);
-        definePrefix(x, 2, 0, 3);
+        Make.ext(x, 1, 2, 0, 1, 2);
+        Make.prefix(x, 2, 0, 3);
         x.system(1, 1, 7);
         due("18 after 1 0", x.deadlock(), 9);
         x.feed(1);
         due("18 not of the log", x.deadlock(), 9);
-        definePrefix(x, 4, 0, 4);
-        definePrefix(x, 5, 1, 5);
+        Make.prefix(x, 4, 0, 4);
+        Make.prefix(x, 5, 1, 5);
         x.system(4, 5, 3);
         due("18 by sharing", x.deadlock(), 0);
         x.system(4, 5, 2);
@@ -709,38 +663,38 @@ public final class PromiseTest {
     private static void deadlockAfterFour() {
         CspRefiner x = new CspRefiner();
         for (int k = 0; k < 4; k++) {
-            definePrefix(x, k, 2, k + 1);
+            Make.prefix(x, k, 2, k + 1);
         }
         due("18 after four events", x.deadlock(), ((3 * 4 + 3) * 4 + 3) * 4 + 3);
-        definePrefix(x, 4, 2, 5);
+        Make.prefix(x, 4, 2, 5);
         due("18 after five events", x.deadlock(), NONE);
     }
 
     private static void unsure() {
         CspRefiner x = new CspRefiner();
         due("19 stop", x.unsure(), NONE);
-        defineRun(x, 0);
+        Make.run(x, 0);
         due("19 run", x.unsure(), NONE);
-        defineHid(x, 1, 1, 0, 2, 0);
+        Make.hid(x, 1, 1, 0, 2, 0);
         x.system(1, 1, 7);
         due("19 hid", x.unsure(), 2);
-        defineHid(x, 7, 0, 0, 2, 0);
+        Make.hid(x, 7, 0, 0, 2, 0);
         x.system(7, 7, 7);
         due("19 the first of all", x.unsure(), 1);
-        definePrefix(x, 2, 2, 1);
+        Make.prefix(x, 2, 2, 1);
         x.system(2, 2, 7);
         due("19 behind an event", x.unsure(), 3 * 4 + 2);
         x.feed(2);
         due("19 not of the log", x.unsure(), 3 * 4 + 2);
-        definePrefix(x, 3, 0, 2);
-        definePrefix(x, 4, 0, 3);
+        Make.prefix(x, 3, 0, 2);
+        Make.prefix(x, 4, 0, 3);
         x.system(4, 4, 7);
         due("19 at length 4", x.unsure(), ((1 * 4 + 1) * 4 + 3) * 4 + 2);
-        definePrefix(x, 5, 0, 4);
+        Make.prefix(x, 5, 0, 4);
         x.system(5, 5, 7);
         due("19 at length 5", x.unsure(), NONE);
         // Refused, but never done: no trace.
-        definePrefix(x, 6, 0, 6);
+        Make.prefix(x, 6, 0, 6);
         x.system(6, 6, 7);
         due("19 refused and no trace", x.unsure(), NONE);
         unsureOfOneEvent();
@@ -759,8 +713,8 @@ public final class PromiseTest {
 
     private static void refusedCallsChangeNothing() {
         CspRefiner x = new CspRefiner();
-        definePrefix(x, 1, 0, 2);
-        defineRun(x, 2);
+        Make.prefix(x, 1, 0, 2);
+        Make.run(x, 2);
         x.system(1, 2, 5);
         x.feed(1);
         x.feed(0);
