@@ -1,3 +1,7 @@
+import java.util.ArrayList;
+import java.util.HashSet;
+import java.util.List;
+import java.util.Set;
 import java.util.function.Consumer;
 
 /** Gives names their terms and brings objects into states that the tests begin with. */
@@ -15,7 +19,72 @@ final class Make {
     /** The name of a busy object that is stop and that no term names. */
     static final int BUSY_STOP = 6;
 
+    /**
+     * A hidden choice between offers, each a set of events: what it may refuse (as a mask with the
+     * bit R) and which events it may do.
+     */
+    record Choice(List<Integer> offers, int refusals, int events) { }
+
     private Make() { }
+
+    /** All choices that are unlike in what they may refuse or do, each of as few offers as it takes. */
+    static List<Choice> choices() {
+        List<Choice> all = new ArrayList<>();
+        Set<Integer> seen = new HashSet<>();
+        for (int size = 1; size <= 8; size++) {
+            for (int offers = 1; offers < 256; offers++) {
+                if (Integer.bitCount(offers) == size) {
+                    Choice choice = choiceOf(offers);
+                    if (seen.add(choice.refusals * 8 + choice.events)) {
+                        all.add(choice);
+                    }
+                }
+            }
+        }
+        return all;
+    }
+
+    private static Choice choiceOf(int offers) {
+        List<Integer> sets = new ArrayList<>();
+        int refusals = 0;
+        int events = 0;
+        for (int offer = 0; offer < 8; offer++) {
+            if ((offers >> offer) % 2 == 1) {
+                sets.add(offer);
+                events |= offer;
+                for (int r = 0; r < 8; r++) {
+                    refusals |= (r & offer) == 0 ? 1 << r : 0;
+                }
+            }
+        }
+        return new Choice(sets, refusals, events);
+    }
+
+    /** Pushes the choice; behind each event it goes on as X k. */
+    static void push(CspRefiner x, Choice choice, int k) {
+        for (int n = 0; n < choice.offers.size(); n++) {
+            pushOffer(x, choice.offers.get(n), k);
+            if (n > 0) {
+                x.hid();
+            }
+        }
+    }
+
+    private static void pushOffer(CspRefiner x, int offer, int k) {
+        int terms = 0;
+        for (int e = 0; e < 3; e++) {
+            if ((offer >> e) % 2 == 1) {
+                x.pre(e, k);
+                terms++;
+            }
+        }
+        if (terms == 0) {
+            x.stop();
+        }
+        for (int n = 1; n < terms; n++) {
+            x.ext();
+        }
+    }
 
     static void stop(CspRefiner x, int name) {
         x.stop();

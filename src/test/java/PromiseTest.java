@@ -424,10 +424,10 @@ public final class PromiseTest {
     }
 
     private static void log() {
-        CspRefiner x = new CspRefiner();
-        Make.run(x, 0);
-        due("11 empty", x.log(), 0);
         for (int a = 0; a < 3; a++) {
+            CspRefiner x = new CspRefiner();
+            Make.run(x, 0);
+            due("11 empty", x.log(), 0);
             for (int b = 0; b < 3; b++) {
                 for (int c = 0; c < 3; c++) {
                     for (int d = 0; d < 3; d++) {
@@ -743,7 +743,7 @@ public final class PromiseTest {
         due("the top was pre 1 2", x.offers(), 2);
     }
 
-    /** No call ever throws, also long after the calls that the answers are promised for. */
+    /** Rule 7 of LANGUAGE.md has no end: no call throws, also after the calls that the answers are promised for. */
     private static void longUse() {
         CspRefiner x = new CspRefiner();
         for (int n = 0; n < 3000; n++) {
@@ -757,6 +757,5 @@ public final class PromiseTest {
             }
             x.feed(n % 3);
         }
-        due("depth within its limit", x.depth() >= 1 && x.depth() <= 6, true);
     }
 }

@@ -17,6 +17,7 @@ public final class SearchBoundaryTest {
         gapOfKind0IsNeverEmpty();
         gapOfKind1();
         gapOfKind1BySomeR();
+        gapTowardsHiddenWays();
         gapAtEachLength();
         gapAtTheLastWord();
         gapNone();
@@ -25,6 +26,7 @@ public final class SearchBoundaryTest {
         gapRefusalOfEachR();
         gapRefusalAtTheFirstGap();
         gapRefusalIsTheLeast();
+        searchesOfAnyTwoChoices();
         gapRefusalArguments();
         gapRefusalNone();
         refinedFrom0To8();
@@ -242,6 +244,47 @@ public final class SearchBoundaryTest {
         due("towards itself", x.gap(0, 1), NONE);
     }
 
+    // Behind 0 the specification X 0 may be X 1, X 2 or X 3, and has the failures of all three.
+    private static void gapTowardsHiddenWays() {
+        CHECK.begin("15: not a failure of X k, in any of the ways that X k may go");
+        CspRefiner x = new CspRefiner();
+        x.pre(0, 1);
+        x.pre(0, 2);
+        x.ext();
+        x.pre(0, 3);
+        x.hid();
+        x.define(0);
+        Make.prefix(x, 4, 2, 4);
+        int[][] eventsOf = {{0, 1, 2}, {0, 1, 0}, {1, 0, 0}, {0, 0, 1}, {2, 1, 0}, {2, 2, 2}};
+        for (int[] events : eventsOf) {
+            for (int n = 1; n <= 3; n++) {
+                Make.prefix(x, n, events[n - 1], 4);
+            }
+            for (int n = 1; n <= 3; n++) {
+                Make.prefix(x, 5, 0, n);
+                x.system(5, 5, 7);
+                due("the way by X " + n + ", kind 0", x.gap(0, 0), NONE);
+                due("the way by X " + n + ", kind 1", x.gap(0, 1), NONE);
+            }
+            x.system(0, 6, 0);
+            due("all ways, kind 0", x.gap(0, 0), NONE);
+            due("all ways, kind 1", x.gap(0, 1), NONE);
+        }
+        Make.prefix(x, 3, 1, 4);
+        Make.prefix(x, 5, 0, 1);
+        x.system(0, 6, 0);
+        due("by 1 or 2, towards 0 2", x.gap(5, 0), Make.codeOf(0, 1));
+        due("by 1 or 2, towards 0 2", x.gap(5, 1), Make.codeOf(0));
+        due("what 0 2 may not refuse", x.gapRefusal(5), 4);
+        Make.ext(x, 7, 1, 4, 2, 4);
+        Make.prefix(x, 5, 0, 7);
+        due("by 1 or 2, towards the offer of both", x.gap(5, 0), NONE);
+        due("by 1 or 2, towards the offer of both", x.gap(5, 1), Make.codeOf(0));
+        due("either may be refused", x.gapRefusal(5), 2);
+        x.system(5, 6, 0);
+        due("the offer of both, towards 1 or 2", x.gap(0, 1), NONE);
+    }
+
     private static void gapAtEachLength() {
         CHECK.begin("15: Answers the code of the first gap, at 0 to 4 events");
         for (int n = 0; n <= 4; n++) {
@@ -436,6 +479,43 @@ public final class SearchBoundaryTest {
             due("pre 0 towards X " + k, x.gapRefusal(k), leastOfPre0[k]);
             due("its word", x.gap(k, 1), leastOfPre0[k] == NONE ? NONE : 0);
         }
+    }
+
+    // X 0 alone, that is one choice, towards X 1, another one; behind each event they are alike.
+    private static void searchesOfAnyTwoChoices() {
+        CHECK.begin("15, 16, 18, 19: the failures behind the empty word, any two choices");
+        for (Make.Choice m : Make.choices()) {
+            for (Make.Choice n : Make.choices()) {
+                CspRefiner x = new CspRefiner();
+                Make.run(x, 7);
+                Make.push(x, m, 7);
+                x.define(0);
+                Make.push(x, n, 7);
+                x.define(1);
+                x.system(0, 7, 7);
+                String told = m.offers() + " towards " + n.offers();
+                int excess = m.refusals() & ~n.refusals();
+                int trace = leastCode(m.events() & ~n.events());
+                due("gap 0 of " + told, x.gap(1, 0), trace);
+                due("gap 1 of " + told, x.gap(1, 1), excess != 0 ? 0 : trace);
+                int least = excess != 0 ? Integer.numberOfTrailingZeros(excess) : trace == NONE ? NONE : 0;
+                due("gapRefusal of " + told, x.gapRefusal(1), least);
+                due("deadlock of " + told, x.deadlock(), (m.refusals() >> 7) % 2 == 1 ? 0 : NONE);
+                due("unsure of " + told, x.unsure(), leastCode(m.events() & refusedAlone(m)));
+            }
+        }
+    }
+
+    private static int leastCode(int events) {
+        return events == 0 ? NONE : Integer.numberOfTrailingZeros(events) + 1;
+    }
+
+    private static int refusedAlone(Make.Choice choice) {
+        int events = 0;
+        for (int e = 0; e < 3; e++) {
+            events |= (choice.refusals() >> (1 << e)) % 2 == 1 ? 1 << e : 0;
+        }
+        return events;
     }
 
     private static void gapRefusalArguments() {

@@ -25,12 +25,15 @@ public final class TermsBoundaryTest {
         preRefusesSetsWithoutItsEvent();
         preOfAtMost4Events();
         extAfterTheEmptyWord();
+        extOfAnyTwoChoices();
         extAfterOtherWords();
         hidHasEveryFailure();
+        hidOfAnyTwoChoices();
         termsNameAnyName();
         systemWithoutShared();
         systemWithAllShared();
         systemOfBasicTerms();
+        systemOfAnyTwoChoices();
         partsKeepTheOrder();
         systemOfOneNameTwice();
         noCallThrows();
@@ -57,7 +60,9 @@ public final class TermsBoundaryTest {
         }
         eightTermsOf31Leaves();
         termsNestedToTheRight();
+        manyPushes();
         manyDefines();
+        onlyDefines();
         manySystems();
         manyFeeds();
         manyRefusedCalls();
@@ -128,6 +133,31 @@ public final class TermsBoundaryTest {
         due("call 512 traces 4", x.traces(4), 2);
     }
 
+    // 258 terms are pushed, more than which 510 calls do not allow.
+    private static void manyPushes() {
+        CspRefiner x = new CspRefiner();
+        for (int n = 1; n <= 6; n++) {
+            due("pre", x.pre(1, n), n);
+        }
+        for (int n = 1; n <= 252; n++) {
+            due("join", n % 2 == 0 ? x.ext() : x.hid(), 5);
+            due("pre", x.pre(n == 252 ? 2 : 0, n % 8), 6);
+        }
+        due("define", x.define(0), 5);
+        due("call 512 offers", x.offers(), 4);
+    }
+
+    // The last of 255 defines is the one that holds.
+    private static void onlyDefines() {
+        CspRefiner x = new CspRefiner();
+        for (int n = 1; n <= 255; n++) {
+            due("pre", x.pre(n == 255 ? 2 : n % 2, 0), 1);
+            due("define", x.define(n == 255 ? 0 : n % 8), 0);
+        }
+        due("call 511 offers", x.offers(), 4);
+        due("call 512 traces 4", x.traces(4), 1);
+    }
+
     private static void manyDefines() {
         CspRefiner x = new CspRefiner();
         Make.busyStack(x, 5);
@@ -157,6 +187,18 @@ public final class TermsBoundaryTest {
     }
 
     private static void manyFeeds() {
+        CspRefiner x = new CspRefiner();
+        Make.prefix(x, 0, 1, 0);
+        for (int n = 0; n < 254; n++) {
+            due("feed", x.feed(1), 1);
+            due("undo", x.undo(), 1);
+        }
+        due("feed", x.feed(1), 1);
+        due("call 512 undo", x.undo(), 1);
+        manyFeedsOn4();
+    }
+
+    private static void manyFeedsOn4() {
         CspRefiner x = new CspRefiner();
         Make.run(x, 0);
         int calls = 6;
@@ -258,12 +300,38 @@ public final class TermsBoundaryTest {
         Make.run(x, 2);
         x.system(1, 1, 7);
         due("deadlock", x.deadlock(), Make.codeOf(1, 0));
+        fourEventsSmallerFirst();
+    }
+
+    // X 0 does 0 2 2 2 or 1 0 0 0, the last event of which it may refuse, and then stops.
+    private static void fourEventsSmallerFirst() {
+        CspRefiner x = new CspRefiner();
+        Make.ext(x, 0, 1, 4, 0, 1);
+        Make.prefix(x, 1, 2, 2);
+        Make.prefix(x, 2, 2, 3);
+        Make.prefix(x, 3, 2, 7);
+        Make.prefix(x, 4, 0, 5);
+        Make.prefix(x, 5, 0, 6);
+        Make.prefix(x, 6, 0, 7);
+        due("deadlock", x.deadlock(), Make.codeOf(0, 2, 2, 2));
+        due("gap of kind 0 towards stop", x.gap(7, 0), Make.codeOf(0));
+        x.pre(0, 7);
+        x.stop();
+        x.hid();
+        x.define(6);
+        due("unsure", x.unsure(), Make.codeOf(1, 0, 0, 0));
+        x.pre(2, 7);
+        x.stop();
+        x.hid();
+        x.define(3);
+        due("unsure", x.unsure(), Make.codeOf(0, 2, 2, 2));
+        due("deadlock", x.deadlock(), Make.codeOf(0, 2, 2));
     }
 
     private static void orderOfAnyTwoWords() {
-        CHECK.begin("ORDER of words, any two of 1 to 3 events");
+        CHECK.begin("ORDER of words, any two of which none begins the other");
         List<int[]> words = new ArrayList<>();
-        for (int len = 1; len <= 3; len++) {
+        for (int len = 1; len <= 4; len++) {
             for (int n = 0; n < Math.pow(3, len); n++) {
                 words.add(wordOf(len, n));
             }
@@ -271,7 +339,10 @@ public final class TermsBoundaryTest {
         // The list is in the order: by length, then with the first event counting most.
         for (int first = 0; first < words.size(); first++) {
             for (int second = first + 1; second < words.size(); second++) {
-                if (!begins(words.get(first), words.get(second))) {
+                int alike = alike(words.get(first), words.get(second));
+                int inner = words.get(first).length + words.get(second).length - alike - 1;
+                // Six names are left for the words that lead to them, the empty word being one.
+                if (alike < words.get(first).length && inner <= 6) {
                     firstOf(words.get(first), words.get(second));
                 }
             }
@@ -288,11 +359,14 @@ public final class TermsBoundaryTest {
         return word;
     }
 
-    private static boolean begins(int[] shorter, int[] longer) {
-        return Arrays.equals(shorter, Arrays.copyOf(longer, shorter.length));
+    /** How many events two words have alike before they differ. */
+    private static int alike(int[] shorter, int[] longer) {
+        int place = Arrays.mismatch(shorter, longer);
+        return place < 0 ? shorter.length : place;
     }
 
-    // X 0 does all, but behind the two words it may also stop (as X 6); X 7 does all.
+    // X 7 does all, and so does X 0, but that it is X 6 behind the two words. X 6 at first does 1
+    // alone, and then does 2 or stops.
     private static void firstOf(int[] first, int[] second) {
         CspRefiner x = new CspRefiner();
         int[][] next = new int[6][];
@@ -322,14 +396,15 @@ public final class TermsBoundaryTest {
         due("gap of kind 1 " + told, x.gap(7, 1), code);
         due("its refusal " + told, x.gapRefusal(7), 1);
         x.system(7, 7, 7);
-        due("gap of kind 0 " + told, x.gap(0, 0), code * 4 + 1);
+        boolean longest = first.length == 4;
+        due("gap of kind 0 " + told, x.gap(0, 0), longest ? Make.NONE : code * 4 + 1);
         x.stop();
         x.pre(2, 7);
         x.hid();
         x.define(6);
         x.system(0, 0, 7);
         due("deadlock " + told, x.deadlock(), code);
-        due("unsure " + told, x.unsure(), code * 4 + 3);
+        due("unsure " + told, x.unsure(), longest ? Make.NONE : code * 4 + 3);
     }
 
     private static void codes() {
@@ -465,6 +540,42 @@ public final class TermsBoundaryTest {
                 due("offers", x.offers(), offersOf(m, n) | 4);
             }
         }
+    }
+
+    private static void extOfAnyTwoChoices() {
+        CHECK.begin("ext M N: (empty word, R) that is a failure of both, any two choices");
+        for (Make.Choice m : Make.choices()) {
+            for (Make.Choice n : Make.choices()) {
+                CspRefiner x = new CspRefiner();
+                Make.push(x, m, 7);
+                Make.push(x, n, 7);
+                x.ext();
+                aloneAs(x, m, n, m.refusals() & n.refusals());
+            }
+        }
+    }
+
+    private static void hidOfAnyTwoChoices() {
+        CHECK.begin("hid M N: every failure of M and every failure of N, any two choices");
+        for (Make.Choice m : Make.choices()) {
+            for (Make.Choice n : Make.choices()) {
+                CspRefiner x = new CspRefiner();
+                Make.push(x, m, 7);
+                Make.push(x, n, 7);
+                x.hid();
+                aloneAs(x, m, n, m.refusals() | n.refusals());
+            }
+        }
+    }
+
+    /** The term on the stack, as X 0 alone, refuses these and does the events of both choices. */
+    private static void aloneAs(CspRefiner x, Make.Choice m, Make.Choice n, int refusals) {
+        x.define(0);
+        Make.run(x, 7);
+        x.system(0, 7, 7);
+        String told = m.offers() + " and " + n.offers();
+        due("refusals of " + told, Make.refusals(x), refusals);
+        due("offers of " + told, x.offers(), m.events() | n.events());
     }
 
     private static void extAfterOtherWords() {
@@ -607,6 +718,27 @@ public final class TermsBoundaryTest {
                     x.system(6, 5, shared);
                     due("offers, the sides changed", x.offers(), together | alone);
                     due("refusals, the sides changed", Make.refusals(x), united);
+                }
+            }
+        }
+    }
+
+    private static void systemOfAnyTwoChoices() {
+        CHECK.begin("The SYSTEM: (u, Y united with Z), the same outside A, any two choices");
+        for (Make.Choice m : Make.choices()) {
+            for (Make.Choice n : Make.choices()) {
+                CspRefiner x = new CspRefiner();
+                Make.push(x, m, 7);
+                x.define(3);
+                Make.push(x, n, 7);
+                x.define(4);
+                for (int shared = 0; shared < 8; shared++) {
+                    x.system(3, 4, shared);
+                    String told = m.offers() + " and " + n.offers() + " with A = " + shared;
+                    int together = m.events() & n.events() & shared;
+                    int alone = (m.events() | n.events()) & ~shared;
+                    due("offers of " + told, x.offers(), together | alone);
+                    due("refusals of " + told, Make.refusals(x), united(m.refusals(), n.refusals(), shared));
                 }
             }
         }

@@ -47,12 +47,13 @@ final class Twins {
         }
     }
 
-    /** The queries, then the log backwards to its begin. */
+    /**
+     * The queries, then the log backwards to its begin, then the queries again after a define: what
+     * the object had already found out of its system must not hide that the system is another.
+     */
     private static void takeSystem(CspRefiner x, List<Long> seen) {
         seen.add((long) x.depth());
-        for (int len = 0; len <= 4; len++) {
-            seen.add((long) x.traces(len));
-        }
+        takeTraces(x, seen);
         takeGaps(x, seen);
         takeEnds(x, seen);
         for (int n = 0; n <= 4; n++) {
@@ -60,6 +61,18 @@ final class Twins {
             seen.add((long) x.offers());
             seen.add((long) Make.refusals(x));
             seen.add((long) x.undo());
+        }
+        seen.add((long) x.stop());
+        seen.add((long) x.define(Make.BUSY_STOP));
+        takeTraces(x, seen);
+        takeGaps(x, seen);
+        takeEnds(x, seen);
+        seen.add((long) Make.refusals(x));
+    }
+
+    private static void takeTraces(CspRefiner x, List<Long> seen) {
+        for (int len = 0; len <= 4; len++) {
+            seen.add((long) x.traces(len));
         }
     }
 
@@ -82,9 +95,7 @@ final class Twins {
     /** Beside a process that does every event and shares all of them, the system is X k alone. */
     private static void takeName(CspRefiner x, int k, List<Long> seen) {
         x.system(k, Make.BUSY_RUN, 7);
-        for (int len = 1; len <= 4; len++) {
-            seen.add((long) x.traces(len));
-        }
+        takeTraces(x, seen);
         seen.add((long) x.offers());
         seen.add((long) Make.refusals(x));
         takeGaps(x, seen);
